@@ -162,6 +162,8 @@ public final class PromiseTest {
     private static void insert() {
         promise = 5;
         IncrementalLinker x = new IncrementalLinker();
+        due("insert(0, 0, 1) as the first word of all", x.insert(0, 0, 1), 1);
+        due("unload(0)", x.unload(0), 1);
         x.constant(2, 99);
         due("insert(1, 1, 0)", x.insert(1, 1, 0), NONE);
         due("insert(1, 0, 10)", x.insert(1, 0, 10), 1);
@@ -490,6 +492,7 @@ public final class PromiseTest {
         due("undefined()", x.undefined(), 1);
         IncrementalLinker y = new IncrementalLinker();
         y.reference(0, 0, -1);
+        due("undefined(), the least name", y.undefined(), 1);
         y.define(0, 0, 0);
         due("value(0)", y.value(0), -1);
         due("undefined(), a defined name with the value -1", y.undefined(), 0);
@@ -570,6 +573,12 @@ public final class PromiseTest {
         due("users(1)", x.users(1), 16);
         due("users(3)", x.users(3), 2 + 4 + 8 + 32);
         due("users(2)", x.users(2), 0);
+        x.reference(0, 0, 0);
+        x.define(2, 0, 0);
+        due("users(2), of the least name", x.users(2), 1);
+        x.reference(5, 9, 0);
+        x.define(2, 9, 0);
+        due("users(2), of the greatest name too", x.users(2), 1 + 32);
         for (int bad : WRONG_MODULES) {
             due("users(" + bad + ")", x.users(bad), BAD_ARG);
         }
