@@ -62,7 +62,7 @@ public final class BoundaryTest {
         test("Terms", "plus the number of the word it is defined at", BoundaryTest::addressOfNameAtEnd);
         test("Terms", "the address of its name plus the addend", BoundaryTest::referenceToTheFarthest);
         test("Terms", "-1 if the name is not defined at all", BoundaryTest::valueOfUndefinedName);
-        test("Terms", "BAD_ARG = -1, FULL = -2, NONE = -4", BoundaryTest::codes);
+        test("Terms", "The constants", BoundaryTest::codes);
         test("What it is", "at most 512 calls after it has been made", BoundaryTest::all512CallsAreAnswered);
     }
 
@@ -1245,8 +1245,10 @@ public final class BoundaryTest {
         due("users(0), two references to each of four names", x.users(0), 16);
         x.patch(4, 0, 0);
         due("users(0), one of them patched", x.users(0), 16);
+        x.reference(2, 9, 0);
+        due("users(0), a single reference in another module", x.users(0), 4 + 16);
         x.unload(4);
-        due("users(0), none of them left", x.users(0), 0);
+        due("users(0), module 4 unloaded", x.users(0), 4);
     }
 
     private static void usersOfCountingOnly() {

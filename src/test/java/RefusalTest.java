@@ -178,7 +178,6 @@ public final class RefusalTest {
 
     private static void forEachArguments(
             String name, State state, int arguments, Call call, Code code, boolean onlyAsks) {
-        List<Integer> untouched = everything(state.make());
         int[] none = {0};
         for (int a : arguments > 0 ? GRID : none) {
             for (int b : arguments > 1 ? GRID : none) {
@@ -187,7 +186,7 @@ public final class RefusalTest {
                     String told = state.name() + ": " + name + Arrays.toString(given);
                     int due = code.of(state, a, b, c);
                     try {
-                        oneCall(told, state.make(), x -> call.on(x, a, b, c), due, onlyAsks, untouched);
+                        oneCall(told, state, x -> call.on(x, a, b, c), due, onlyAsks);
                     } catch (RuntimeException | StackOverflowError thrown) {
                         fail(told + " threw " + thrown);
                     }
@@ -196,10 +195,9 @@ public final class RefusalTest {
         }
     }
 
-    private static void oneCall(
-            String told, IncrementalLinker x, Bound call, int code, boolean onlyAsks, List<Integer> untouched) {
-        int answer = call.on(x);
-        List<Integer> after = everything(x);
+    private static void oneCall(String told, State state, Bound call, int code, boolean onlyAsks) {
+        IncrementalLinker asked = state.make();
+        int answer = call.on(asked);
         if (code != NOT_REFUSED) {
             refused++;
             if (answer != code) {
@@ -208,7 +206,18 @@ public final class RefusalTest {
         } else if (!onlyAsks && answer < 0) {
             fail(told + " answered " + answer + ", but nothing refuses it");
         }
-        if ((code != NOT_REFUSED || onlyAsks) && !after.equals(untouched)) {
+        List<Integer> answers = askedAndUnloaded(asked);
+        IncrementalLinker apart = state.make();
+        call.on(apart);
+        List<Integer> parts = takenApart(apart);
+        if (code != NOT_REFUSED || onlyAsks) {
+            same(told, answers, askedAndUnloaded(state.make()));
+            same(told, parts, takenApart(state.make()));
+        }
+    }
+
+    private static void same(String told, List<Integer> after, List<Integer> untouched) {
+        if (!after.equals(untouched)) {
             fail(told + " changed " + untouched + " to " + after);
         }
     }
@@ -220,12 +229,11 @@ public final class RefusalTest {
         }
     }
 
-    /**
-     * All that an object can be asked; then what only a change shows: where each module defines each
-     * name, the addends of the references (once all names have one address), what each word is, and
-     * the words each module has.
-     */
-    private static List<Integer> everything(IncrementalLinker x) {
+    // An object is looked at in two ways that share few calls: if the call in question did change
+    // something, one way must come upon it before that call hides it by being part of the look.
+
+    /** All that can be asked, then where the names are as the modules go, from the least on. */
+    private static List<Integer> askedAndUnloaded(IncrementalLinker x) {
         List<Integer> answers = new ArrayList<>(List.of(x.size(), x.undefined(), x.idle(), x.digest()));
         for (int place = -1; place <= 48; place++) {
             answers.add(x.value(place));
@@ -236,8 +244,24 @@ public final class RefusalTest {
             answers.add(x.users(m));
         }
         for (int name = 0; name <= 9; name++) {
-            answers.add(x.where(name));
             answers.add(x.uses(name));
+        }
+        for (int m = 0; m < 6; m++) {
+            for (int name = 0; name <= 9; name++) {
+                answers.add(x.where(name));
+            }
+            answers.add(x.unload(m));
+        }
+        return answers;
+    }
+
+    /**
+     * Where each module defines each name; the addends of the references, once all names have one
+     * address; whether each word is a reference; and the words of each module.
+     */
+    private static List<Integer> takenApart(IncrementalLinker x) {
+        List<Integer> answers = new ArrayList<>();
+        for (int name = 0; name <= 9; name++) {
             for (int m = 0; m < 6; m++) {
                 answers.add(x.undefine(m, name));
             }
