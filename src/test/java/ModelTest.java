@@ -9,7 +9,8 @@ import java.util.TreeMap;
  */
 public final class ModelTest {
     private static final int RUNS = 4000;
-    private static final int CALLS = 380;
+    // With the undefines and values at a run's end these are 512: what later calls answer is free.
+    private static final int CALLS = 404;
     private static final int LIMIT_OF_REPORTS = 20;
     private static final int[] EXTREMES = {Integer.MIN_VALUE, Integer.MAX_VALUE, -1000000, 1000000, -5, 60};
 
@@ -91,7 +92,7 @@ public final class ModelTest {
         int a = addend();
         int place = mostlyBelow(8 * modules + 1, 48);
         String given = " with m " + m + ", name " + name + ", w " + w + ", v " + v + ", addend " + a + ", place " + place;
-        switch (below(24)) {
+        switch (below(25)) {
             case 0, 1 -> due(run, "constant" + given, x.constant(m, v), model.constant(m, v));
             case 2, 3, 4 -> due(run, "reference" + given, x.reference(m, name, a), model.reference(m, name, a));
             case 5 -> due(run, "patch" + given, x.patch(m, w, v), model.patch(m, w, v));
@@ -113,10 +114,8 @@ public final class ModelTest {
             case 20 -> due(run, "idle", x.idle(), model.idle());
             case 21 -> due(run, "uses" + given, x.uses(name), model.uses(name));
             case 22 -> due(run, "users" + given, x.users(m), model.users(m));
-            default -> {
-                due(run, "moduleOf" + given, x.moduleOf(place), model.moduleOf(place));
-                due(run, "digest", x.digest(), model.digest());
-            }
+            case 23 -> due(run, "moduleOf" + given, x.moduleOf(place), model.moduleOf(place));
+            default -> due(run, "digest", x.digest(), model.digest());
         }
     }
 
